@@ -325,7 +325,7 @@ public final class HornBraider {
             return refuse(NO_SUCH);
         }
         plan.fillOpen(open);
-        return give(plan.frame.moved(slot, open[t % PHASES]));
+        return give(plan.frame.moved(slot, open[phase(t)]));
     }
 
     public int ride(int slot, int t, int n) {
@@ -341,7 +341,7 @@ public final class HornBraider {
         int left = home > 0 ? n % home : n;
         int here = slot;
         for (int i = 0; i < left; i++) {
-            here = plan.frame.moved(here, open[(t + i) % PHASES]);
+            here = plan.frame.moved(here, open[phase(t + i)]);
         }
         return give(here);
     }
@@ -646,7 +646,7 @@ public final class HornBraider {
 
     /** One STEP of the machine, if it can be done; else the STATUS that tells why not. */
     private int advance() {
-        if (!live.turnAll(plan.frame, open[live.time % PHASES])) {
+        if (!live.turnAll(plan.frame, open[phase(live.time)])) {
             return MEETING;
         }
         live.weave(plan.frame);
@@ -660,7 +660,7 @@ public final class HornBraider {
 
     private void layRounds(int from) {
         plan.fillOpen(open);
-        rounds.lay(plan.frame, open, from % PHASES, plan.period());
+        rounds.lay(plan.frame, open, from, plan.period());
     }
 
     private int startsOnTrack(int least) {
@@ -804,6 +804,10 @@ public final class HornBraider {
         coil.begin(plan.bobbins);
         coil.follow(trial.word, 1);
         return coil.matches(wishedCoil);
+    }
+
+    private static int phase(int t) {
+        return Math.floorMod(t, PHASES);
     }
 
     private static long leastCommon(long a, long b) {
@@ -975,7 +979,7 @@ public final class HornBraider {
 
         private boolean tellsOpen(int s, int t) {
             int length = lengths[s];
-            return length > 0 && (bits[s] >> t % length & 1) == 1;
+            return length > 0 && (bits[s] >> Math.floorMod(t, length) & 1) == 1;
         }
 
         private boolean opens(int s, int t) {
@@ -1298,7 +1302,7 @@ public final class HornBraider {
         /** n STEPS with LETTERS, some SWITCHES held; false if two MEET, time tells the STEP. */
         private boolean runAll(Frame frame, int[] open, int n, int held, int heldShut) {
             for (int i = 0; i < n; i++) {
-                if (!turnAll(frame, (open[time % PHASES] | held) & ~heldShut)) {
+                if (!turnAll(frame, (open[phase(time)] | held) & ~heldShut)) {
                     return false;
                 }
                 weave(frame);
@@ -1311,7 +1315,7 @@ public final class HornBraider {
         /** STEPS without LETTERS until two MEET. */
         private void chase(Frame frame, int[] open) {
             for (int i = 0; i < LONGEST_CHASE; i++) {
-                if (!turnAll(frame, open[time % PHASES])) {
+                if (!turnAll(frame, open[phase(time)])) {
                     return;
                 }
                 settle();
@@ -1344,7 +1348,7 @@ public final class HornBraider {
             for (int q = 0; q < slots; q++) {
                 int place = q;
                 for (int i = 0; i < period; i++) {
-                    place = frame.moved(place, open[(from + i) % PHASES]);
+                    place = frame.moved(place, open[phase(from + i)]);
                 }
                 behind[q] = place;
                 lengths[q] = 0;
@@ -1416,7 +1420,7 @@ public final class HornBraider {
                     markFoes(holder[frame.first[s]], holder[frame.second[s]]);
                 }
                 for (int q = 0; q < slots; q++) {
-                    here[q] = frame.moved(here[q], open[(from + i) % PHASES]);
+                    here[q] = frame.moved(here[q], open[phase(from + i)]);
                 }
             }
         }
@@ -1709,7 +1713,7 @@ public final class HornBraider {
             stoodShut = 0;
             run.begin(plan);
             for (int i = 0; i < latest; i++) {
-                int openNow = (programs[run.time % PHASES] | held) & ~heldShut;
+                int openNow = (programs[phase(run.time)] | held) & ~heldShut;
                 if (!sightings.agree(run) || !run.turnAll(plan.frame, openNow)) {
                     return false;
                 }
