@@ -52,7 +52,7 @@ public final class HornBraider {
     private final int[] open = new int[PHASES];
     private final Rounds rounds = new Rounds();
     private final Coil coil = new Coil();
-    private final Coil wishedCoil = new Coil();
+    private final Coil otherCoil = new Coil();
     private final Sightings sightings = new Sightings();
     private final Namer namer = new Namer();
 
@@ -714,38 +714,38 @@ public final class HornBraider {
 
     private boolean isEmptyBraid() {
         coil.begin(plan.bobbins);
-        wishedCoil.begin(plan.bobbins);
+        otherCoil.begin(plan.bobbins);
         coil.follow(live.word, 1);
-        return coil.matches(wishedCoil);
+        return coil.matches(otherCoil);
     }
 
     private boolean isWishedBraid(int times) {
         if (!plan.wished.fits(plan.bobbins)) {
             return false;
         }
-        wishedCoil.begin(plan.bobbins);
-        wishedCoil.follow(plan.wished, 1);
+        otherCoil.begin(plan.bobbins);
+        otherCoil.follow(plan.wished, 1);
         coil.begin(plan.bobbins);
         for (int i = 0; i < times; i++) {
             coil.follow(live.word, 1);
         }
-        return coil.matches(wishedCoil);
+        return coil.matches(otherCoil);
     }
 
     private boolean isMirrored() {
         coil.begin(plan.bobbins);
-        wishedCoil.begin(plan.bobbins);
+        otherCoil.begin(plan.bobbins);
         coil.follow(live.word, 1);
-        wishedCoil.follow(live.word, -1);
-        return coil.matches(wishedCoil);
+        otherCoil.follow(live.word, -1);
+        return coil.matches(otherCoil);
     }
 
     private boolean isBackwards() {
         coil.begin(plan.bobbins);
-        wishedCoil.begin(plan.bobbins);
+        otherCoil.begin(plan.bobbins);
         coil.follow(live.word, 1);
-        wishedCoil.followBack(live.word);
-        return coil.matches(wishedCoil);
+        otherCoil.followBack(live.word);
+        return coil.matches(otherCoil);
     }
 
     private boolean isEitherWayRound() {
@@ -755,18 +755,18 @@ public final class HornBraider {
         coil.begin(plan.bobbins);
         coil.follow(live.word, 1);
         coil.follow(plan.wished, 1);
-        wishedCoil.begin(plan.bobbins);
-        wishedCoil.follow(plan.wished, 1);
-        wishedCoil.follow(live.word, 1);
-        return coil.matches(wishedCoil);
+        otherCoil.begin(plan.bobbins);
+        otherCoil.follow(plan.wished, 1);
+        otherCoil.follow(live.word, 1);
+        return coil.matches(otherCoil);
     }
 
     /** The wished WORD's coil is the same for all SETTINGS, so it is made ahead of them. */
     private void prepareSearch() {
         plan.fillOpen(open);
-        wishedCoil.begin(plan.bobbins);
+        otherCoil.begin(plan.bobbins);
         if (plan.hasWished && plan.wished.fits(plan.bobbins)) {
-            wishedCoil.follow(plan.wished, 1);
+            otherCoil.follow(plan.wished, 1);
         }
     }
 
@@ -803,7 +803,7 @@ public final class HornBraider {
         }
         coil.begin(plan.bobbins);
         coil.follow(trial.word, 1);
-        return coil.matches(wishedCoil);
+        return coil.matches(otherCoil);
     }
 
     private static int phase(int t) {
