@@ -1,75 +1,5 @@
 /** For each promise of the document: ordinary inputs, the edges that it names, wrong inputs. */
-public final class Promises {
-  private static final int NONE = -1;
-  private static int wrong = 0;
-  private static int asked = 0;
-
-  /** An answer and the STATUS behind it. */
-  private static void ask(int promise, String call, HornBraider x, int got, int want, int status) {
-    int is = x.status();
-    asked++;
-    if (got != want || is != status) {
-      wrong++;
-      System.out.println("promise " + promise + ": " + call + " answered " + got + " with status " + is + ", due is " + want + " with " + status);
-    }
-  }
-
-  /** A refusal. */
-  private static void no(int promise, String call, HornBraider x, int got, int status) {
-    ask(promise, call, x, got, NONE, status);
-  }
-
-  /** An answer of a call without a STATUS. */
-  private static void plain(int promise, String call, int got, int want) {
-    asked++;
-    if (got != want) {
-      wrong++;
-      System.out.println("promise " + promise + ": " + call + " answered " + got + ", due is " + want);
-    }
-  }
-
-  private static void feedText(HornBraider x, String text) {
-    for (int i = 0; i < text.length(); i += 20) {
-      int[] v = new int[5];
-      for (int k = 0; k < 20; k++) {
-        int sign = i + k < text.length() ? text.charAt(i + k) : 32;
-        v[k / 4] = v[k / 4] << 8 | sign;
-      }
-      x.feed(v[0], v[1], v[2], v[3], v[4]);
-    }
-  }
-
-  private static int loadText(HornBraider x, String text) {
-    feedText(x, text);
-    return x.load(text.length());
-  }
-
-  private static HornBraider of(String text) {
-    HornBraider x = new HornBraider();
-    loadText(x, text);
-    if (x.status() != 0) {
-      wrong++;
-      System.out.println("a text has fault " + x.fault(0) + " at " + x.fault(1) + ": " + text);
-    }
-    return x;
-  }
-
-  private static String outText(HornBraider x, int n) {
-    StringBuilder s = new StringBuilder();
-    for (int i = 0; i < n; i++) {
-      s.append((char) x.out(i));
-    }
-    return s.toString();
-  }
-
-  private static String repeated(String text, int n) {
-    StringBuilder s = new StringBuilder();
-    for (int i = 0; i < n; i++) {
-      s.append(text);
-    }
-    return s.toString();
-  }
-
+public final class Promises extends Due {
   public static void main(String[] args) {
     newObject();
     statuses();
@@ -101,8 +31,7 @@ public final class Promises {
     searches();
     sightings();
     names();
-    System.out.println(wrong == 0 ? asked + " answers are as due" : wrong + " of " + asked + " answers are not as due");
-    if (wrong != 0) System.exit(1);
+    end();
   }
 
   private static void newObject() {
@@ -194,13 +123,6 @@ public final class Promises {
     ask(4, "wished(0)", x, x.wished(0), -3, 0);
     ask(4, "an empty word", x, loadText(x, "size 1 2;word;"), 8, 0);
     ask(4, "many(11)", x, x.many(11), 0, 0);
-  }
-
-  private static void fault(String text, int kind, int place) {
-    HornBraider x = new HornBraider();
-    no(5, "load: " + text, x, loadText(x, text), 9);
-    plain(5, "fault(0): " + text, x.fault(0), kind);
-    plain(5, "fault(1): " + text, x.fault(1), place);
   }
 
   private static void faults() {
@@ -553,11 +475,7 @@ public final class Promises {
     HornBraider x = of(text);
     ask(21, "print()", x, x.print(), due.length(), 0);
     String got = outText(x, due.length());
-    asked++;
-    if (!got.equals(due)) {
-      wrong++;
-      System.out.println("promise 21: print() wrote " + got + ", due is " + due);
-    }
+    same(21, "print()", got, due);
     no(22, "out(end)", x, x.out(due.length()), 5);
     no(22, "out(-1)", x, x.out(-1), 1);
     ask(22, "out(0)", x, x.out(0), 's', 0);
