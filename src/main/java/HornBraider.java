@@ -1176,8 +1176,6 @@ public final class HornBraider {
             count = plan.bobbins;
             time = 0;
             word.size = 0;
-            standing = 0;
-            clash = 0;
             for (int b = 0; b < count; b++) {
                 slot[b] = plan.start[b];
                 enterLine(plan.frame, b);

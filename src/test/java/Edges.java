@@ -16,6 +16,7 @@ public final class Edges extends Due {
     tapeFull();
     loadLength();
     loadAnew();
+    smallerBehindLarger();
     faultTold();
     manyOf();
     periods();
@@ -44,6 +45,7 @@ public final class Edges extends Due {
     rideEdges();
     roundEdges();
     trackEdges();
+    phases();
     meetsEdges();
     crashEdges();
     repeatEdges();
@@ -52,12 +54,14 @@ public final class Edges extends Due {
     wishedEdges();
     braidEdges();
     braidRules();
+    longUndone();
     threadEdges();
     timesEdges();
     searchEdges();
     refusalEdges();
     refusedEdges();
     whyOrder();
+    eachCallAnew();
     seenEdges();
     nameEdges();
     namedEdges();
@@ -194,6 +198,34 @@ public final class Edges extends Due {
     }
     yes(4, "gate(0,1) behind both", x, x.gate(0, 1), 0);
     yes(4, "bobbin(0,5) behind both", x, x.bobbin(0, 5), NONE);
+    no(4, "wished(0) behind both", x, x.wished(0), 5);
+  }
+
+  /** Nothing of a larger machine is left in a smaller one, however often it is loaded. */
+  private static void smallerBehindLarger() {
+    HornBraider x = of("size 4 5;switch 0 1;switch 30 1;stuck 1 open;" + SIX + EIGHT + "place 7 79;word 1 2;");
+    x.seen(7, 64, 79);
+    x.tracks(0);
+    x.laid(7);
+    for (int i = 0; i < 3; i++) {
+      yes(4, "load() of one wheel", x, loadText(x, "size 1 1;"), 4);
+      int[] due = {1, 1, 0, 4, 0, 0, 0, 0, 0, 1, 0, NONE};
+      for (int what = 0; what < due.length; what++) {
+        yes(4, "many(" + what + ") of one wheel", x, x.many(what), due[what]);
+      }
+      for (int slot = 0; slot < 4; slot++) {
+        no(4, "faces(" + slot + ") of one wheel", x, x.faces(slot), 5);
+        no(4, "at(" + slot + ") of one wheel", x, x.at(slot), 5);
+        yes(4, "map(0," + slot + ") of one wheel", x, x.map(0, slot), (slot + 1) % 4);
+        yes(4, "laid(" + slot + ") of one wheel", x, x.laid(slot), slot);
+      }
+      no(4, "at(4) of one wheel", x, x.at(4), 2);
+      no(4, "laid(4) of one wheel", x, x.laid(4), 5);
+      no(4, "gate(0,0) of one wheel", x, x.gate(0, 0), 2);
+      no(4, "wished(0) of one wheel", x, x.wished(0), 5);
+      yes(4, "tracks(0) of one wheel", x, x.tracks(0), 1);
+      yes(4, "name(0) of one wheel", x, x.name(0), 0);
+    }
   }
 
   private static void faultTold() {
@@ -958,6 +990,54 @@ public final class Edges extends Due {
     yes(28, "ofLength(8)", z, z.ofLength(8), 1);
   }
 
+  /** ROUNDS begin with STEP 0, and their STEPS come one behind the other. */
+  private static void phases() {
+    HornBraider x = of("size 1 2;switch 0 1 1 0;");
+    // 7, 6, 5, 4, then over at step 4
+    yes(24, "ride(0,0,5)", x, x.ride(0, 0, 5), 1);
+    yes(24, "ride(0,1,5)", x, x.ride(0, 1, 5), 7);
+    yes(24, "ride(0,2,5), shut first", x, x.ride(0, 2, 5), 7);
+    int[] round = {5, 0, 1, 6, 3, 2, 7, 4};
+    int[] least = {0, 0, 0, 3, 3, 0, 3, 3};
+    for (int slot = 0; slot < 8; slot++) {
+      yes(25, "round(" + slot + ") of 1 1 0", x, x.round(slot), round[slot]);
+      yes(26, "track(" + slot + ",0) of 1 1 0", x, x.track(slot, 0), 4);
+      yes(26, "track(" + slot + ",1) of 1 1 0", x, x.track(slot, 1), least[slot]);
+    }
+    // of 1 0: 0, 6, 4, 2 are one track, 1, 3 and 5, 7 two others; of 0 1 it is 0, 2 and 1, 3, 7, 5 and 4, 6
+    HornBraider y = of("size 1 2;switch 0 1 0;");
+    int[] lengths = {4, 2, 4, 2, 4, 2, 4, 2};
+    int[] leasts = {0, 1, 0, 1, 0, 5, 0, 5};
+    for (int i = 0; i < 2; i++) {
+      for (int slot = 0; slot < 8; slot++) {
+        yes(26, "track(" + slot + ",0) of 1 0", y, y.track(slot, 0), lengths[slot]);
+        yes(26, "track(" + slot + ",1) of 1 0", y, y.track(slot, 1), leasts[slot]);
+      }
+      yes(27, "tracks(0) of 1 0", y, y.tracks(0), 3);
+      yes(28, "ofLength(2) of 1 0", y, y.ofLength(2), 2);
+      // whatever T is
+      y.step(1);
+    }
+    // tracks of 2, 6 and 4: all are home behind 12 rounds
+    HornBraider z = of("size 1 3;switch 0 0 1;switch 1 1;");
+    yes(27, "tracks(0) of 2, 6, 4", z, z.tracks(0), 3);
+    yes(27, "tracks(1) of 2, 6, 4", z, z.tracks(1), 6);
+    yes(27, "tracks(2) of 2, 6, 4", z, z.tracks(2), 12);
+    for (int n = 1; n <= 8; n++) {
+      yes(28, "ofLength(" + n + ") of 2, 6, 4", z, z.ofLength(n), n == 2 || n == 4 || n == 6 ? 1 : 0);
+    }
+    // 0 over to 7, 6, then to 5; 8 to 9, 10, then to 11; 1 and 9 come there with the switch shut in between
+    HornBraider w = of("size 1 3;switch 0 1 0;");
+    int[] firsts = {2, NONE, 4, NONE};
+    for (int slot = 0; slot < 4; slot++) {
+      ask(29, "meets(" + slot + ") across a wheel", w, w.meets(slot, 8 + slot, 0), firsts[slot], firsts[slot] == NONE ? 5 : 0);
+    }
+    w.program(0, 0, 1);
+    for (int slot = 0; slot < 4; slot++) {
+      no(29, "meets(" + slot + ") across a wheel, shut", w, w.meets(slot, 8 + slot, 0), 5);
+    }
+  }
+
   private static void meetsEdges() {
     HornBraider x = of("size 1 2;");
     for (int what : new int[] {MIN, -1, 2, MAX}) {
@@ -991,32 +1071,100 @@ public final class Edges extends Due {
     HornBraider y = of("size 4 5;");
     yes(29, "meets(57,77,1)", y, y.meets(57, 77, 1), 30);
     yes(29, "meets(57,77,0)", y, y.meets(57, 77, 0), 0);
+    meetsOfAll();
     meetsBehindRounds();
+  }
+
+  /** All pairs of 4 by 5, all shut: those turn together to a switch that are as far behind it. */
+  private static void meetsOfAll() {
+    HornBraider shut = of("size 4 5;");
+    int[] from = new int[80];
+    for (int slot = 0; slot < 80; slot++) {
+      from[shut.map(0, slot)] = slot;
+    }
+    int[][] first = new int[80][80];
+    for (int[] row : first) {
+      java.util.Arrays.fill(row, NONE);
+    }
+    for (int s = 0; s < 31; s++) {
+      int one = shut.gate(s, 4);
+      int other = shut.gate(s, 5);
+      for (int t = 0; t < 3; t++) {
+        one = from[one];
+        other = from[other];
+        first[one][other] = t;
+        first[other][one] = t;
+      }
+    }
+    for (int slot = 0; slot < 80; slot++) {
+      HornBraider x = of("size 4 5;");
+      for (int other = 0; other < 80; other++) {
+        int due = first[slot][other];
+        boolean already = slot == other || x.faces(slot) == other;
+        ask(29, "meets(" + slot + "," + other + ",0)", x, x.meets(slot, other, 0), due, already ? 4 : due == NONE ? 5 : 0);
+      }
+    }
   }
 
   /** The first meeting may come behind many rounds: it is held against steps of two BOBBINS. */
   private static void meetsBehindRounds() {
-    String text = "size 2 3;switch 0 1 0 1;switch 1 1;switch 2 0 0 1;switch 6 1 1 1 0;";
+    String[] texts = {"size 2 3;switch 0 1 0 1;switch 1 1;switch 2 0 0 1;switch 6 1 1 1 0;", "size 1 3;switch 0 1 1 0;switch 1 0 1 1 0;",
+      "size 2 2;switch 0 0 1 1 0;switch 2 1 0 0;"};
     int never = 0;
     int latest = 0;
-    for (int other = 1; other < 24; other++) {
-      HornBraider x = of(text + "bobbin 0;bobbin " + other + ";");
-      int done = 0;
-      int did = 0;
-      for (int i = 0; i < 30 && did != NONE; i++) {
-        did = x.step(100);
-        x.cut();
-        done += Math.max(did, 0);
+    for (String text : texts) {
+      HornBraider x = of(text);
+      int slots = x.many(3);
+      boolean[][] foes = new boolean[slots][slots];
+      for (int slot = 0; slot < slots; slot++) {
+        for (int other = 0; other < slot; other++) {
+          if (x.faces(slot) != other) {
+            int due = stepsUntilMeeting(text, slot, other);
+            HornBraider y = of(text);
+            ask(29, "meets(" + slot + "," + other + ",0) of " + text, y, y.meets(slot, other, 0), due, due == NONE ? 5 : 0);
+            ask(29, "meets(" + other + "," + slot + ",0) of " + text, y, y.meets(other, slot, 0), due, due == NONE ? 5 : 0);
+            never += due == NONE ? 1 : 0;
+            latest = Math.max(latest, due);
+          }
+          foes[slot][other] = x.faces(slot) == other || stepsUntilMeeting(text, slot, other) != NONE;
+        }
+        x = of(text);
       }
-      if (did == NONE) {
-        yes(29, "meets(0," + other + ",0)", x, x.meets(0, other, 0), done);
-        latest = Math.max(latest, done);
-      } else {
-        no(29, "meets(0," + other + ",0)", x, x.meets(0, other, 0), 5);
-        never++;
-      }
+      laidOf(text, foes);
     }
     plain(29, "some never meet, some behind a round", never > 0 && latest > 12 ? 1 : 0, 1);
+  }
+
+  private static int stepsUntilMeeting(String text, int slot, int other) {
+    HornBraider x = of(text + "bobbin " + slot + ";bobbin " + other + ";");
+    int done = 0;
+    for (int i = 0; i < 30; i++) {
+      int did = x.step(100);
+      x.cut();
+      if (did == NONE) {
+        return done;
+      }
+      done += did;
+    }
+    return NONE;
+  }
+
+  private static void laidOf(String text, boolean[][] foes) {
+    HornBraider x = of(text);
+    int[] laid = new int[8];
+    int count = 0;
+    for (int slot = 0; slot < foes.length && count < 8; slot++) {
+      boolean fits = true;
+      for (int i = 0; i < count; i++) {
+        fits = fits && !foes[slot][laid[i]];
+      }
+      if (fits) {
+        yes(32, "laid(" + count + ") of " + text, x, x.laid(count), slot);
+        laid[count] = slot;
+        count++;
+      }
+    }
+    no(32, "laid(" + count + ") of " + text, x, x.laid(count), 5);
   }
 
   private static void crashEdges() {
@@ -1242,6 +1390,42 @@ public final class Edges extends Due {
     wishedIsEmpty(3, c + a + back + " - 1 - 1", 0);
   }
 
+  /** Four quarters of a ROUND with one PROGRAM and another one by turns, so often. */
+  private static void turns(HornBraider x, int n, int one, int other) {
+    for (int i = 0; i < n; i++) {
+      x.program(0, one, 4);
+      yes(35, "step(4)", x, x.step(4), 4);
+      x.program(0, other, 4);
+      yes(35, "step(4)", x, x.step(4), 4);
+    }
+  }
+
+  /** A long WORD that is undone again: its numbers grow beyond a long, and come back. */
+  private static void longUndone() {
+    // bits 1 0 1 and 0 1 0 make 2 - 1 2 - 1 2 - 1 of 16 steps; 1 1 1 and 0 1 1 undo it
+    HornBraider x = of("size 1 2;bobbin 0;bobbin 3;bobbin 6;word" + " 2 - 1".repeat(3) + ";");
+    turns(x, 2, 5, 2);
+    yes(35, "braid(3)", x, x.braid(3), 1);
+    yes(35, "braid(2)", x, x.braid(2), 0);
+    turns(x, 2, 7, 6);
+    yes(35, "braid(2), undone", x, x.braid(2), 1);
+    yes(35, "braid(3), undone", x, x.braid(3), 0);
+    x.reset();
+    turns(x, 30, 5, 2);
+    yes(35, "braid(2), far away", x, x.braid(2), 0);
+    yes(35, "braid(5), far away", x, x.braid(5), 0);
+    yes(35, "braid(6), it goes along with its part", x, x.braid(6), 1);
+    turns(x, 28, 7, 6);
+    yes(35, "braid(3), all but one undone", x, x.braid(3), 1);
+    yes(35, "times(2), all but one undone", x, x.times(2), 0);
+    yes(35, "braid(2), all but one undone", x, x.braid(2), 0);
+    turns(x, 2, 7, 6);
+    yes(35, "braid(2), all undone", x, x.braid(2), 1);
+    yes(35, "braid(4), all undone", x, x.braid(4), 1);
+    yes(35, "braid(5), all undone", x, x.braid(5), 1);
+    yes(39, "times(4), all undone", x, x.times(4), 0);
+  }
+
   private static void threadEdges() {
     HornBraider x = of("size 1 1;bobbin 0;bobbin 1;bobbin 2;bobbin 3;");
     for (int place : new int[] {MIN, -1, 0, 5, MAX}) {
@@ -1434,6 +1618,52 @@ public final class Edges extends Due {
     no(41, "letters of 306, and not in its place", y, y.refusal(51, 0, 4), 5);
     y.wish(7, 14);
     yes(41, "WHY of 306 letters, in its place", y, y.refusal(51, 0, 0), 3);
+    // 7, 8, 6, 5 letters by turns: 293 behind 45 steps, 301 behind 46
+    HornBraider z = of("size 4 1;bobbin 0;bobbin 12;bobbin 3;bobbin 8;bobbin 1;bobbin 9;");
+    int[] letters = {7, 15, 21, 26};
+    for (int n = 1; n <= 4; n++) {
+      yes(41, "letters of " + n + " steps", z, z.refusal(n, 0, 4), letters[n - 1]);
+    }
+    yes(41, "WHY of 293 letters", z, z.refusal(45, 0, 0), 0);
+    yes(41, "letters of 293", z, z.refusal(45, 0, 4), 293);
+    yes(41, "WHY of 301 letters", z, z.refusal(46, 0, 0), 3);
+    no(41, "letters of 301", z, z.refusal(46, 0, 4), 5);
+    no(40, "search(46)", z, z.search(46), 5);
+    yes(40, "search(45)", z, z.search(45), 0);
+    yes(18, "step(100), as long as they can be", z, z.step(100), 45);
+    yes(18, "many(6)", z, z.many(6), 293);
+    no(18, "step(1), 301", z, z.step(1), 3);
+  }
+
+  /** No call rests on what another one worked out ahead of it. */
+  private static void eachCallAnew() {
+    String text = "size 1 2;switch 0 1;bobbin 0;bobbin 5;word 1;";
+    HornBraider x = of(text);
+    yes(41, "refusal(2,0,0) ahead of any other call", x, x.refusal(2, 0, 0), 0);
+    yes(42, "refused(2,0) ahead of any other call", x = of(text), x.refused(2, 0), 1);
+    yes(40, "search(2) ahead of any other call", x = of(text), x.search(2), 0);
+    x.program(0, 0, 1);
+    yes(41, "refusal(2,0,0) behind program()", x, x.refusal(2, 0, 0), 4);
+    yes(42, "refused(2,4) behind program()", x, x.refused(2, 4), 1);
+    no(40, "search(2) behind program()", x, x.search(2), 5);
+    // two settings that make the same word, each told by itself
+    HornBraider y = of("size 1 3;free 1;bobbin 0;bobbin 2;word - 1;");
+    yes(35, "braid(2) ahead of it", y, y.braid(2), 1);
+    yes(42, "refused(1,0), both are found", y, y.refused(1, 0), 2);
+    yes(41, "refusal(1,1,0)", y, y.refusal(1, 1, 0), 0);
+    yes(41, "refusal(1,1,0) again", y, y.refusal(1, 1, 0), 0);
+    HornBraider z = of("size 1 1;bobbin 0;bobbin 2;word 1;");
+    for (int i = 0; i < 2; i++) {
+      int[] due = {0, 2, 1, 0, 1, 1, 1};
+      for (int what = 6; what >= 0; what--) {
+        for (int then = 0; then <= 6; then++) {
+          yes(35, "braid(" + what + ") behind others", z, z.braid(what), due[what]);
+          yes(35, "braid(" + then + ") behind braid(" + what + ")", z, z.braid(then), due[then]);
+        }
+      }
+      z.step(4);
+      z.cut();
+    }
   }
 
   private static void seenEdges() {
@@ -1496,6 +1726,13 @@ public final class Edges extends Due {
     yes(45, "name(0), they have not met yet", y, y.name(0), 0);
     y.seen(0, 3, 1);
     no(45, "name(0), they meet, be it open or shut", y, y.name(0), 5);
+    // nothing seen, or only behind 0: no step is looked at
+    HornBraider v = of("size 1 2;bobbin 0;bobbin 4;");
+    yes(45, "name(0), two would meet at once, nothing was seen", v, v.name(0), 0);
+    v.seen(1, 0, 4);
+    yes(45, "name(0), two would meet at once, seen behind 0", v, v.name(0), 0);
+    v.seen(1, 1, 7);
+    no(45, "name(0), two meet at once, seen behind 1", v, v.name(0), 5);
     // seen behind 64: shut it is home, open too; so all is home by any set
     HornBraider z = of("size 1 2;bobbin 0;");
     z.seen(0, 64, 0);
@@ -1553,5 +1790,30 @@ public final class Edges extends Due {
     yes(46, "name(0), two", y, y.name(0), 2);
     yes(46, "named(0,0), the lesser, open", y, y.named(0, 0), 1);
     yes(46, "named(0,1), the other one, shut", y, y.named(0, 1), 2);
+    // over 0 it is on 8 slots if 1 is shut, on 12 if it is open: behind 19 it is at 5 by both
+    HornBraider z = of("size 1 3;switch 1 1 0 0;bobbin 0;");
+    z.seen(0, 19, 5);
+    allNamed(z, new int[][] {{1, 2}, {1, 3}});
+    // 1, 8, 11, 10, 9, 2, 3, 0, 1, 8, 11, 10 or 7, 12, 13, 14, 15, 6, 5, 4, 1, 8, 11, 10, or over 1
+    HornBraider w = of("size 2 2;switch 0 1 0 0;switch 3 1;bobbin 0;");
+    w.seen(0, 12, 10);
+    allNamed(w, new int[][] {{0, 5}, {1, 5}, {3, 5}});
+    // the two last switches of all, 55 to 54 and over, 57 to 58 and over
+    HornBraider v = of("size 4 5;bobbin 55;bobbin 57;");
+    v.seen(1, 1, 76);
+    v.seen(0, 1, 72);
+    allNamed(v, new int[][] {{59, 61}});
+  }
+
+  private static void allNamed(HornBraider x, int[][] sets) {
+    yes(45, "name(1)", x, x.name(1), sets.length);
+    yes(45, "name(0)", x, x.name(0), sets[0].length);
+    for (int i = 0; i < sets.length; i++) {
+      for (int k = 0; k < sets[i].length; k++) {
+        yes(46, "named(" + i + "," + k + ")", x, x.named(i, k), sets[i][k]);
+      }
+      no(46, "named(" + i + "), one more", x, x.named(i, sets[i].length), 5);
+    }
+    no(46, "named(), one set more", x, x.named(sets.length, 0), 5);
   }
 }

@@ -4,7 +4,7 @@
  * FAULT is told where there are several.
  */
 public final class TextEdges extends Due {
-  /** One of each LINE; what may stand at a TOKEN's place is told by the signs of WHAT below. */
+  /** A text with one of each LINE, TOKEN by TOKEN. */
   private static final String[] TOKENS = {"size", "2", "2", ";", "switch", "0", "1", "0", ";", "bobbin", "3", ";",
     "stuck", "1", "open", ";", "stuck", "2", "shut", ";", "free", "2", ";", "place", "0", "5", ";",
     "word", "-", "1", "2", ";"};
@@ -16,6 +16,7 @@ public final class TextEdges extends Due {
     ends();
     wrongKinds();
     wrongWords();
+    wrongLetters();
     sizeNumbers();
     switchNumbers();
     slotNumbers();
@@ -167,6 +168,25 @@ public final class TextEdges extends Due {
     fault("size 1 2;switch 0 open;", 2, 18);
     fault("size 1 2;free 0 open;", 2, 16);
     fault("size 1 2;word word;", 2, 14);
+  }
+
+  /** A WORD that is one but for one letter, or one letter longer or shorter. */
+  private static void wrongLetters() {
+    String[][] lines = {{"", "size", " 1 2;"}, {"size 1 2;", "switch", " 0 1;"}, {"size 1 2;", "bobbin", " 0;"},
+      {"size 1 2;", "stuck", " 0 open;"}, {"size 1 2;", "free", " 0;"}, {"size 1 2;bobbin 0;", "place", " 0 0;"},
+      {"size 1 2;", "word", " 1;"}, {"size 1 2;stuck 0 ", "open", ";"}, {"size 1 2;stuck 0 ", "shut", ";"}};
+    for (String[] line : lines) {
+      String word = line[1];
+      int here = line[0].length();
+      loads(line[0] + word + line[2], 8);
+      for (int i = 0; i < word.length(); i++) {
+        fault(line[0] + word.substring(0, i) + "x" + word.substring(i + 1) + line[2], 2, here);
+        fault(line[0] + word.substring(0, i) + word.substring(i + 1) + line[2], 2, here);
+        fault(line[0] + word.substring(0, i) + "A" + word.substring(i + 1) + line[2], i == 0 ? 1 : 2, here);
+      }
+      fault(line[0] + word + "x" + line[2], 2, here);
+      fault(line[0] + "x" + word + line[2], 2, here);
+    }
   }
 
   private static void sizeNumbers() {
