@@ -1123,6 +1123,7 @@ public final class Edges extends Due {
             HornBraider y = of(text);
             ask(29, "meets(" + slot + "," + other + ",0) of " + text, y, y.meets(slot, other, 0), due, due == NONE ? 5 : 0);
             ask(29, "meets(" + other + "," + slot + ",0) of " + text, y, y.meets(other, slot, 0), due, due == NONE ? 5 : 0);
+            crashCountsDown(text, slot, other, due);
             never += due == NONE ? 1 : 0;
             latest = Math.max(latest, due);
           }
@@ -1133,6 +1134,16 @@ public final class Edges extends Due {
       laidOf(text, foes);
     }
     plain(29, "some never meet, some behind a round", never > 0 && latest > 12 ? 1 : 0, 1);
+  }
+
+  /** crash() at each T tells what is left of the steps until they meet. */
+  private static void crashCountsDown(String text, int slot, int other, int meeting) {
+    HornBraider x = of(text + "bobbin " + slot + ";bobbin " + other + ";");
+    for (int t = 0; t <= 12 && (meeting == NONE || t <= meeting); t++) {
+      ask(30, "crash(0) at T " + t + " of " + slot + " and " + other + " in " + text, x, x.crash(0),
+          meeting == NONE ? NONE : meeting - t, meeting == NONE ? 5 : 0);
+      x.step(1);
+    }
   }
 
   private static int stepsUntilMeeting(String text, int slot, int other) {
@@ -1202,6 +1213,18 @@ public final class Edges extends Due {
     yes(30, "crash(0) behind two", x, x.crash(0), 0);
     no(30, "step(1)", x, x.step(1), 6);
     yes(30, "crash(0) behind a step that could not be", x, x.crash(0), 0);
+    // 3 to 0, over to 7, 6, then to 5 as the other one comes to 11; from 0 and 8 at an even step it would not
+    HornBraider v = of("size 1 3;switch 0 0 1;bobbin 3;bobbin 11;");
+    for (int t = 0; t <= 3; t++) {
+      yes(30, "crash(0) at T " + t, v, v.crash(0), 3 - t);
+      yes(30, "crash(1) at T " + t, v, v.crash(1), 1);
+      v.step(1);
+    }
+    HornBraider u = of("size 1 3;switch 0 1 0;bobbin 3;bobbin 11;");
+    for (int t = 0; t <= 3; t++) {
+      no(30, "crash(0), never, at T " + t, u, u.crash(0), 5);
+      u.step(1);
+    }
   }
 
   private static void repeatEdges() {
@@ -1223,6 +1246,18 @@ public final class Edges extends Due {
     yes(31, "repeat(), behind one round of 4", z, z.repeat(), 4);
     z.program(0, 0, 3);
     yes(31, "repeat(), behind four rounds of 3", z, z.repeat(), 12);
+    // 0 is home behind four rounds of 2, and so is each slot to which it comes
+    HornBraider v = of("size 1 2;switch 0 1 0;bobbin 0;");
+    for (int t = 0; t < 8; t++) {
+      yes(31, "repeat() at T " + t, v, v.repeat(), 8);
+      v.step(1);
+    }
+    // 1 is home behind two rounds
+    HornBraider u = of("size 1 2;switch 0 1 0;bobbin 1;");
+    for (int t = 0; t < 8; t++) {
+      yes(31, "repeat() at T " + t, u, u.repeat(), 4);
+      u.step(1);
+    }
     // one comes round in 4, the other in 8
     HornBraider w = of("size 1 3;switch 1 1;bobbin 0;bobbin 8;");
     yes(31, "repeat() of 4 and 8", w, w.repeat(), 8);
@@ -1531,6 +1566,14 @@ public final class Edges extends Due {
     x.free(0, false);
     x.stick(0, 0);
     yes(40, "search(60), none is free: by its program", x, x.search(60), 0);
+    // a stuck one has its bit, too: 6 goes over at the second one
+    HornBraider z = of("size 1 3;free 0;free 1;stuck 0 shut;bobbin 6;place 0 11;");
+    yes(40, "search(1), the second free one", z, z.search(1), 2);
+    z.stick(0, 2);
+    yes(40, "search(1), whatever the first one is", z, z.search(1), 2);
+    yes(42, "refused(1,0), with the first one's bit or without", z, z.refused(1, 0), 2);
+    z.stick(1, 2);
+    yes(40, "search(1), both are stuck", z, z.search(1), 0);
     HornBraider y = new HornBraider();
     yes(40, "search(64), no bobbins, none free", y, y.search(64), 0);
     yes(42, "refused(64,0)", y, y.refused(64, 0), 1);
@@ -1603,6 +1646,12 @@ public final class Edges extends Due {
     yes(41, "the letters", x, x.refusal(2, 0, 4), 0);
     yes(42, "refused(3,1)", x, x.refused(3, 1), 2);
     yes(42, "refused(2,4)", x, x.refused(2, 4), 2);
+    // as many letters with the same signs are not yet one braid
+    String three = "size 1 1;bobbin 0;bobbin 1;bobbin 2;";
+    yes(41, "WHY with - 1 - 2 wished", x = of(three + "word - 1 - 2;"), x.refusal(1, 0, 0), 0);
+    yes(41, "WHY with - 2 - 1 wished", x = of(three + "word - 2 - 1;"), x.refusal(1, 0, 0), 4);
+    yes(41, "WHY with - 2 - 1 - 2 wished", x = of(three + "word - 2 - 1 - 2;"), x.refusal(2, 0, 0), 0);
+    yes(41, "WHY with - 2 - 2 - 1 wished", x = of(three + "word - 2 - 2 - 1;"), x.refusal(2, 0, 0), 4);
     // a meeting at the step behind the last is none
     yes(41, "refusal(2,0,0) ahead of the meeting", x = of("size 1 2;bobbin 6;bobbin 2;"), x.refusal(2, 0, 0), 0);
     yes(41, "refusal(3,0,0) with the meeting", x, x.refusal(3, 0, 0), 1);
