@@ -1,13 +1,15 @@
 /** What the tests share: answers held against those that are due, and texts brought to the tape. */
 public class Due {
   protected static final int NONE = -1;
+  private static final int PROMISES = 46;
   private static int wrong = 0;
   private static int asked = 0;
+  private static final int[] askedOf = new int[PROMISES + 1];
 
   /** An answer and the STATUS behind it. */
   protected static void ask(int promise, String call, HornBraider x, int got, int want, int status) {
     int is = x.status();
-    asked++;
+    count(promise);
     if (got != want || is != status) {
       complain(promise, call + " answered " + got + " with status " + is + ", due is " + want + " with " + status);
     }
@@ -25,22 +27,37 @@ public class Due {
 
   /** An answer of a call without a STATUS. */
   protected static void plain(int promise, String call, int got, int want) {
-    asked++;
+    count(promise);
     if (got != want) {
       complain(promise, call + " answered " + got + ", due is " + want);
     }
   }
 
   protected static void same(int promise, String what, String got, String want) {
-    asked++;
+    count(promise);
     if (!got.equals(want)) {
       complain(promise, what + ": " + got + ", due is " + want);
     }
   }
 
+  private static void count(int promise) {
+    asked++;
+    askedOf[promise]++;
+  }
+
   private static void complain(int promise, String what) {
     wrong++;
     System.out.println("promise " + promise + ": " + what);
+  }
+
+  /** The end of a test that must have asked for each promise. */
+  protected static void endOfAll() {
+    for (int promise = 1; promise <= PROMISES; promise++) {
+      if (askedOf[promise] == 0) {
+        complain(promise, "nothing was asked");
+      }
+    }
+    end();
   }
 
   protected static void end() {

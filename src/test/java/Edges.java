@@ -65,7 +65,7 @@ public final class Edges extends Due {
     seenEdges();
     nameEdges();
     namedEdges();
-    end();
+    endOfAll();
   }
 
   // ---- promises 1 to 5

@@ -31,7 +31,7 @@ public final class Promises extends Due {
     searches();
     sightings();
     names();
-    end();
+    endOfAll();
   }
 
   private static void newObject() {

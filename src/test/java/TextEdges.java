@@ -14,6 +14,7 @@ public final class TextEdges extends Due {
     blanks();
     wordsAndNumbers();
     ends();
+    cuts();
     wrongKinds();
     wrongWords();
     wrongLetters();
@@ -122,6 +123,27 @@ public final class TextEdges extends Due {
     fault("size 1 2;word -", 2, 15);
     fault("size 1 2;switch 0 1 1 1 1", 2, 25);
     fault("size 1 2;word" + " 1".repeat(60), 2, 133);
+  }
+
+  /** What is on the tape behind n bytes is no part of the text, be it of the same TOKEN. */
+  private static void cuts() {
+    cut("size 1 23;", 8, 2, 8);
+    cut("size 1 2;bobbin 1000;", 19, 3, 16);
+    cut("size 1 2;bobbin 1000;", 20, 1, 16);
+    cut("size 1 2;bobbin 12;", 17, 2, 17);
+    cut("size 1 2;bobbin 1;", 13, 2, 9);
+    cut("size 1 2;#", 10, 1, 9);
+    HornBraider x = new HornBraider();
+    feedText(x, "size 1 2;#");
+    yes(4, "load(9) ahead of a sign that begins no token", x, x.load(9), 8);
+  }
+
+  private static void cut(String text, int n, int kind, int place) {
+    HornBraider x = new HornBraider();
+    feedText(x, text);
+    no(4, "load(" + n + ") of " + text, x, x.load(n), 9);
+    plain(5, "fault(0) of it", x.fault(0), kind);
+    plain(5, "fault(1) of it", x.fault(1), place);
   }
 
   /** Each TOKEN in turn is another kind of TOKEN that can't stand there. */
