@@ -1,4 +1,5 @@
 import java.io.IOException;
+import java.lang.reflect.Constructor;
 import java.lang.reflect.Field;
 import java.lang.reflect.Method;
 import java.lang.reflect.Modifier;
@@ -29,6 +30,7 @@ public final class LanguageRules {
     made(bare);
     methodLengths(bare);
     members();
+    face();
     System.out.println(wrong == 0 ? "the rules that can be seen hold" : wrong + " rules are broken");
     if (wrong != 0) System.exit(1);
   }
@@ -94,5 +96,35 @@ public final class LanguageRules {
         must(!Modifier.isPrivate(m.getModifiers()) || !open.contains(m.getName()), "rule 1: a private method bears a public name: " + m);
       }
     }
+  }
+
+  /** The public face is the one that the document tells, word by word. */
+  private static void face() throws IOException {
+    String doc = Files.readString(Path.of("../shared/DOC.md"));
+    Set<String> due = new TreeSet<>();
+    Matcher told = Pattern.compile("(?m)^    public (static final int NONE = -1|[^;=]*);$").matcher(doc);
+    while (told.find()) due.add(told.group(1).replaceAll("(int|boolean) \\w+(?=[,)])", "$1"));
+    Set<String> is = new TreeSet<>();
+    for (Method m : HornBraider.class.getMethods()) {
+      if (m.getDeclaringClass() == HornBraider.class) {
+        is.add(m.getReturnType() + " " + m.getName() + kinds(m.getParameterTypes()));
+      }
+    }
+    for (Constructor<?> c : HornBraider.class.getConstructors()) {
+      is.add(c.getName() + kinds(c.getParameterTypes()));
+    }
+    for (Field f : HornBraider.class.getFields()) {
+      is.add("static final " + f.getType() + " " + f.getName() + " = " + HornBraider.NONE);
+    }
+    must(due.size() == 47 && is.equals(due), "rule 1: the face is " + is + ", due is " + due);
+    must(Modifier.isFinal(HornBraider.class.getModifiers()) && Modifier.isPublic(HornBraider.class.getModifiers()), "rule 1: the class");
+  }
+
+  private static String kinds(Class<?>[] types) {
+    List<String> names = new ArrayList<>();
+    for (Class<?> type : types) {
+      names.add(type.getName());
+    }
+    return "(" + String.join(", ", names) + ")";
   }
 }
