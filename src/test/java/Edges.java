@@ -1820,6 +1820,7 @@ public final class Edges extends Due {
     // the last switch of all, open: 57 turns to 58 and goes over to 76
     HornBraider z = of("size 4 5;bobbin 57;");
     z.seen(0, 1, 76);
+    yes(45, "name(1), the last switch", z, z.name(1), 1);
     yes(46, "named(0,0), the last switch", z, z.named(0, 0), 61);
     namedOrder();
   }
